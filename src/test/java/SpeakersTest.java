@@ -13,6 +13,7 @@ public final class SpeakersTest {
         setTellsTheOldOne();
         nearestTellsTheLowest();
         speakerOfTellsAll();
+        speakerOfTellsTheFirstTurnsTerms();
         speakerOfTellsTheRateAsAFloat();
         speakerOfRefuses();
         interruptionsNeedTwoKnownSpeakers();
@@ -100,6 +101,9 @@ public final class SpeakersTest {
         x.speaker(300);
         CHECK.due("a former without turns changes the pitch", 3, x.join(1, 0));
         CHECK.due("the mean again", 168, x.speakerOf(0, 0));
+        x.speaker(500);
+        CHECK.due("join(0,1)", 3, x.join(0, 1));
+        CHECK.due("owner of the first turn", 1, x.turnOf(0, 3));
     }
 
     private static void joinWithoutTurnsKeepsThePitch() {
@@ -189,6 +193,18 @@ public final class SpeakersTest {
             CHECK.due("speakerOf(0," + what + ")", first[what], x.speakerOf(0, what));
             CHECK.due("speakerOf(1," + what + ")", second[what], x.speakerOf(1, what));
         }
+    }
+
+    private static void speakerOfTellsTheFirstTurnsTerms() {
+        LectureTurns x = new LectureTurns();
+        x.speaker(100);
+        x.speaker(200);
+        x.turn(0, 10, 200);
+        x.turn(5, 6, 100);
+        x.say(0, 0);
+        CHECK.due("terms of the first turn", Check.set(0), x.speakerOf(1, 3));
+        CHECK.due("interrupted by speaker 0", 1, x.speakerOf(1, 5));
+        CHECK.due("speaker 0 interrupts", 1, x.speakerOf(0, 4));
     }
 
     private static void speakerOfTellsTheRateAsAFloat() {

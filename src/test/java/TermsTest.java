@@ -14,6 +14,7 @@ public final class TermsTest {
         termAtTellsBoth();
         termAtRefuses();
         termOfTellsAll();
+        termOfTellsTheLowestTerm();
         termOfRefuses();
         CHECK.end();
     }
@@ -174,6 +175,20 @@ public final class TermsTest {
                 CHECK.due("termOf(" + terms[i] + "," + what + ")", due[i][what], x.termOf(terms[i], what));
             }
         }
+    }
+
+    private static void termOfTellsTheLowestTerm() {
+        LectureTurns x = new LectureTurns();
+        x.speaker(100);
+        x.turn(0, 1, 100);
+        x.turn(1, 2, 100);
+        x.say(0, 0);
+        x.say(1, 0);
+        CHECK.due("places", 2, x.termOf(0, 3));
+        CHECK.due("turns", Check.set(0, 1), x.termOf(0, 4));
+        CHECK.due("one speaker of both", Check.set(0), x.termOf(0, 5));
+        CHECK.due("correct(0,1)", 2, x.correct(0, 1));
+        CHECK.due("corrections", 1, x.count(3));
     }
 
     private static void termOfRefuses() {

@@ -83,6 +83,9 @@ public final class TimesTest {
         CHECK.due("turns in 10", 0, x.during(10, 0));
         CHECK.due("speakers in 10", 0, x.during(10, 1));
         CHECK.due("turns in 1999", 0, x.during(1999, 0));
+        x.turn(8, 9, 200);
+        CHECK.due("two turns of a speaker", Check.set(0, 1), x.during(8, 1));
+        x.remove(3);
         x.turn(1998, 1999, 400);
         CHECK.due("turns in 1998", Check.set(3), x.during(1998, 0));
         CHECK.due("speakers in 1998", 0, x.during(1998, 1));
@@ -186,6 +189,7 @@ public final class TimesTest {
         x.correct(1, 3);
         x.correct(0, 15);
         dueTogether("by what is shown", x, 3, 15, 3);
+        dueTogether("the lowest term", terms("ba", "ab", "cd"), 0, 1, 2);
         dueTogether("not by what is told", terms("hg"), 6, 7, 1);
         LectureTurns y = terms("hg");
         y.correct(6, 7);

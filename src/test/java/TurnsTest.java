@@ -5,6 +5,7 @@ public final class TurnsTest {
     public static void main(String[] args) {
         newObjectIsEmpty();
         turnsComeInTheOrderOfTheirBegins();
+        aTurnInFrontOfMany();
         turnRefusesWrongArguments();
         turnRefusesTheTwentyFirst();
         turnGetsTheNearestSpeaker();
@@ -49,6 +50,24 @@ public final class TurnsTest {
             CHECK.due("pitch of " + i, pitches[i], x.turnOf(i, 2));
             CHECK.due("terms of " + i, 0, x.turnOf(i, 4));
         }
+    }
+
+    private static void aTurnInFrontOfMany() {
+        LectureTurns x = new LectureTurns();
+        for (int i = 0; i < 15; i++) {
+            x.turn(100 + i, 200 + i, 50 + i);
+            x.say(i, i);
+        }
+        CHECK.due("turn(105,300,500)", 6, x.turn(105, 300, 500));
+        for (int i = 0; i < 15; i++) {
+            int place = i < 6 ? i : i + 1;
+            CHECK.due("begin of " + place, 100 + i, x.turnOf(place, 0));
+            CHECK.due("end of " + place, 200 + i, x.turnOf(place, 1));
+            CHECK.due("pitch of " + place, 50 + i, x.turnOf(place, 2));
+            CHECK.due("terms of " + place, 1, x.turnOf(place, 4));
+            CHECK.due("term of " + place, i, x.termAt(place, 0, 0));
+        }
+        CHECK.due("terms of the new one", 0, x.turnOf(6, 4));
     }
 
     private static void turnRefusesWrongArguments() {
