@@ -404,8 +404,8 @@ public final class LectureTurns {
 
         private int sumOf(int[] row, int owner) {
             int sum = 0;
-            for (int i = 0; i < size && i < row.length; i++) {
-                if (ownerOf(i) == owner) {
+            for (int i = 0; i < size && i < MOST_TURNS && i < row.length; i++) {
+                if (owners[i] == owner) {
                     sum += row[i];
                 }
             }
@@ -678,10 +678,9 @@ public final class LectureTurns {
             int closest = NONE;
             int least = away + 1;
             for (int i = 0; i < MOST_SPEAKERS; i++) {
-                int distance = Math.abs(pitchOf(i) - pitch);
-                if (has(i) && distance < least) {
+                if (has(i) && Math.abs(pitches[i] - pitch) < least) {
                     closest = i;
-                    least = distance;
+                    least = Math.abs(pitches[i] - pitch);
                 }
             }
             return closest;
