@@ -363,9 +363,9 @@ public final class LectureTurns {
         }
 
         void passTurns(int owner, int taker) {
-            for (int i = 0; i < size; i++) {
-                if (ownerOf(i) == owner) {
-                    own(i, taker);
+            for (int i = 0; i < size && i < MOST_TURNS; i++) {
+                if (owners[i] == owner) {
+                    owners[i] = taker;
                 }
             }
         }
@@ -380,8 +380,8 @@ public final class LectureTurns {
 
         int turnsOf(int owner) {
             int number = 0;
-            for (int i = 0; i < size; i++) {
-                if (ownerOf(i) == owner) {
+            for (int i = 0; i < size && i < MOST_TURNS; i++) {
+                if (owners[i] == owner) {
                     number++;
                 }
             }
