@@ -18,10 +18,11 @@ public final class FaceTest {
         "speaker/1", "give/2", "join/2", "set/2", "turnOf/2", "termAt/3", "termOf/2", "speakerOf/2", "during/2",
         "interrupts/2", "nearest/1", "would/2", "together/1", "silence/1", "doubtful/1", "count/1", "undo/0",
         "type/1", "clearText/0", "fault/1", "play/0"};
-    private static final String[] FORBIDDEN = {"->", "::", "\\bthrow\\b", "\\btry\\b", "\\bcatch\\b",
-        "\\bsynchronized\\b", "\\bassert\\b", "\\bstatic \\{", "\\bFloat\\.", "\\bDouble\\.", "\\bSystem\\.(?!arraycopy)",
-        "\\bArrays\\.(?!fill)", "\\bMath\\.(?!max|min|abs|floorMod)", "\\bInteger\\.(?!bitCount)", "\\bvar\\b",
-        "\\binstanceof\\b", "\\bprotected\\b"};
+    private static final String[] IMPORTS = {"Arrays", "ArrayList", "List", "Iterator", "NoSuchElementException"};
+    private static final String[] FORBIDDEN = {"\\bpackage\\b", "\\bprotected\\b", "::", "\\bsynchronized\\b",
+        "\\bassert\\b", "\\bfinally\\b", "\\bstatic\\s*\\{", "\\bFloat\\.", "\\bDouble\\.", "Exact\\b",
+        "\\bSystem\\.(?!arraycopy)", "\\bArrays\\.(?!fill|copyOf)", "\\bgetMessage\\b",
+        "\\b(ArrayIndexOutOfBounds|NullPointer|ClassCast|NegativeArraySize|ArrayStore)Exception\\b"};
 
     public static void main(String[] args) throws Exception {
         constantsAreAsTold();
@@ -39,7 +40,8 @@ public final class FaceTest {
 
     private static void membersAreAsTold() {
         Class<?> face = LectureTurns.class;
-        CHECK.holds("public and final", Modifier.isPublic(face.getModifiers()) && Modifier.isFinal(face.getModifiers()));
+        int modifiers = face.getModifiers();
+        CHECK.holds("public and final", Modifier.isPublic(modifiers) && Modifier.isFinal(modifiers));
         Set<String> names = new TreeSet<>();
         for (Method method : face.getDeclaredMethods()) {
             boolean isPublic = Modifier.isPublic(method.getModifiers());
@@ -70,12 +72,13 @@ public final class FaceTest {
         for (String name : FACE) {
             publicNames.add(name.substring(0, name.indexOf('/')));
         }
-        CHECK.holds("some twelve classes", face.getDeclaredClasses().length <= 11);
+        CHECK.holds("some twelve classes", face.getDeclaredClasses().length <= 12);
         for (Class<?> inside : face.getDeclaredClasses()) {
             CHECK.holds(inside + " is static", Modifier.isStatic(inside.getModifiers()));
             CHECK.holds(inside + " is hidden", !Modifier.isPublic(inside.getModifiers()));
             for (Method method : inside.getDeclaredMethods()) {
-                CHECK.holds(method + " has a name of its own", !publicNames.contains(method.getName()));
+                CHECK.holds(method + " has a name of its own", !Modifier.isPrivate(method.getModifiers())
+                        || !publicNames.contains(method.getName()));
             }
         }
     }
@@ -87,11 +90,8 @@ public final class FaceTest {
             CHECK.holds("no " + pattern, !Pattern.compile(pattern).matcher(code).find());
         }
         for (String line : code.split("\n")) {
-            CHECK.holds("import of another class: " + line,
-                    !line.startsWith("import ") || line.equals("import java.util.Arrays;"));
-            boolean field = line.contains("private final ") && line.contains(" = new ");
-            boolean inConstructor = line.matches(" {8}\\w+ = new \\w+\\(\\w*\\);| {16}states\\[i] = new Transcript\\(\\);");
-            CHECK.holds("an object is made by a call: " + line, !line.contains("new ") || field || inConstructor);
+            boolean known = Arrays.stream(IMPORTS).anyMatch(name -> line.equals("import java.util." + name + ";"));
+            CHECK.holds("import of another class: " + line, known || !line.startsWith("import "));
         }
         CHECK.holds("signs 1 to 127", text.chars().allMatch(sign -> sign > 0 && sign < 128));
     }

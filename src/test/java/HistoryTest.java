@@ -2,10 +2,6 @@
 public final class HistoryTest {
     private static final Check CHECK = new Check();
 
-    private interface Call {
-        int on(LectureTurns x);
-    }
-
     public static void main(String[] args) {
         undoRestoresEachChange();
         fourStatesAreKept();

@@ -4,7 +4,9 @@ import java.util.List;
 /** Long runs of calls, whose answers are those of the model. */
 public final class ModelTest {
     private static final int RUNS = 400;
+    /** An object is used for at most 512 calls, and an order is typed by as many as it has characters. */
     private static final int CALLS = 512;
+    private static final int MOST_OF_AN_ORDER = 20;
 
     private static final String[] NAMES = {"turn", "say", "part", "remove", "correct", "uncorrect", "speaker", "give",
         "join", "set", "turnOf", "termAt", "termOf", "speakerOf", "during", "interrupts", "nearest", "would",
@@ -39,8 +41,8 @@ public final class ModelTest {
         List<String> calls = new ArrayList<>();
         for (int i = 0; i < CALLS; i++) {
             String name = anyName();
-            if (name.equals("type") && below(10) > 0) {
-                i += typeOrder(x, model, calls);
+            if (name.equals("type") && below(10) > 0 && i + MOST_OF_AN_ORDER <= CALLS) {
+                i += typeOrder(run, x, model, calls) - 1;
                 continue;
             }
             int[] a = name.equals("part") ? argumentsOfPart(model) : arguments(name);
@@ -62,10 +64,10 @@ public final class ModelTest {
         }
     }
 
-    private int typeOrder(LectureTurns x, Model model, List<String> calls) {
+    private int typeOrder(int run, LectureTurns x, Model model, List<String> calls) {
         String order = anyOrder();
         for (char sign : order.toCharArray()) {
-            same(0, x, model, calls, "type", new int[] {sign, 0, 0});
+            same(run, x, model, calls, "type", new int[] {sign, 0, 0});
         }
         return order.length();
     }

@@ -1,0 +1,4 @@
+/** One call on an object. */
+interface Call {
+    int on(LectureTurns x);
+}
