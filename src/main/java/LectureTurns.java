@@ -279,7 +279,7 @@ public final class LectureTurns {
         }
 
         int toldTerm(int place, int index) {
-            return has(place) && index >= 0 && index < termCounts[place]
+            return has(place) && index >= 0 && index < termCounts[place] && index < MOST_TERMS_OF_TURN
                     ? terms[place * MOST_TERMS_OF_TURN + index] : NONE;
         }
 
@@ -316,7 +316,7 @@ public final class LectureTurns {
 
         private void moveRows(int from, int to) {
             int moved = size - from;
-            if (from < 0 || to < 0 || moved < 0 || to + moved > MOST_TURNS) {
+            if (from < 0 || to < 0 || moved < 0 || from + moved > MOST_TURNS || to + moved > MOST_TURNS) {
                 return;
             }
             System.arraycopy(begins, from, begins, to, moved);
@@ -345,7 +345,7 @@ public final class LectureTurns {
         }
 
         void appendTerm(int place, int term) {
-            if (has(place) && termCounts[place] < MOST_TERMS_OF_TURN) {
+            if (has(place) && isWithin(termCounts[place], 0, MOST_TERMS_OF_TURN - 1)) {
                 terms[place * MOST_TERMS_OF_TURN + termCounts[place]] = term;
                 termCounts[place]++;
             }
@@ -353,10 +353,11 @@ public final class LectureTurns {
 
         /** Takes the terms from an index on off one turn and puts them at the end of another one. */
         void passTerms(int place, int index, int taker) {
-            if (!has(place) || !isWithin(index, 0, termCounts[place])) {
+            int told = termCountOf(place);
+            if (!has(place) || !isWithin(index, 0, told)) {
                 return;
             }
-            for (int i = index; i < termCounts[place]; i++) {
+            for (int i = index; i < told; i++) {
                 appendTerm(taker, toldTerm(place, i));
             }
             termCounts[place] = index;
@@ -853,6 +854,10 @@ public final class LectureTurns {
 
     /** The answers to the questions about a transcript. */
     private static final class Survey {
+        private static final int EXPONENT_OF_ONE = 127;
+        private static final int LARGEST_EXPONENT = 254;
+        private static final int BITS_OF_FRACTION = 23;
+
         private final Transcript transcript;
         private final Turns turns;
         private final Corrections corrections;
@@ -1148,8 +1153,8 @@ public final class LectureTurns {
                 return 0;
             }
             float fraction = rate;
-            int exponent = 127;
-            while (exponent < 254 && fraction >= 2f) {
+            int exponent = EXPONENT_OF_ONE;
+            while (exponent < LARGEST_EXPONENT && fraction >= 2f) {
                 fraction = fraction / 2f;
                 exponent++;
             }
@@ -1157,7 +1162,7 @@ public final class LectureTurns {
                 fraction = fraction * 2f;
                 exponent--;
             }
-            return (exponent << 23) + (int) ((fraction - 1f) * 8388608f);
+            return (exponent << BITS_OF_FRACTION) + (int) ((fraction - 1f) * (float) (1 << BITS_OF_FRACTION));
         }
 
         private void noteShownSets() {
@@ -1240,7 +1245,7 @@ public final class LectureTurns {
         }
 
         int append(int character) {
-            if (!isFull()) {
+            if (isWithin(length, 0, MOST_CHARACTERS - 1)) {
                 characters[length] = character;
                 length++;
             }
@@ -1254,7 +1259,7 @@ public final class LectureTurns {
         }
 
         int characterAt(int position) {
-            return isWithin(position, 0, length - 1) ? characters[position] : NONE;
+            return position >= 0 && position < length && position < MOST_CHARACTERS ? characters[position] : NONE;
         }
     }
 
